@@ -265,7 +265,13 @@ public final class BalanceCoder {
         if (row.count == 0) {
             return found(NOUGHT);
         }
-        return makeBest(row);
+        int way = shortestWay(row);
+        int r = way % 1000 / 10;
+        int lanes = way % 10;
+        planTrial(way / 1000, r, row);
+        bench.packSigns(1 << r, lanes);
+        now.block.fill(bench.trial, bench, lanes);
+        return way;
     }
 
     // ---- steps, marks
@@ -421,6 +427,11 @@ public final class BalanceCoder {
         return (int) (w >>> (8 * i)) & 255;
     }
 
+    /** Which deal of a MIXED table counts behind a sign. */
+    private static int partBehind(int sign) {
+        return sign & (PARTS - 1);
+    }
+
     /** Packs on the bench alone: the size of the block, or a finding. */
     private int tryPacking(Table packer, Row row, int lanes) {
         if (packer == null || row == null || lanes < 1 || lanes > MOST_LANES) {
@@ -437,8 +448,9 @@ public final class BalanceCoder {
         return bench.blockSize(packer.toldSize(), lanes);
     }
 
-    private int makeBest(Row row) {
-        int best = 0;
+    /** The first way to pack a row with the fewest bytes: 1000 times the kind, 10 times r, and the lanes. */
+    private int shortestWay(Row row) {
+        int shortest = 0;
         int fewest = BLOCK_LIMIT + 1;
         for (int kind = FLAT; kind <= GROWING; kind++) {
             for (int r = LEAST_R; r <= MOST_R; r++) {
@@ -449,13 +461,12 @@ public final class BalanceCoder {
                     int size = bench.blockSize(toldSize, lanes);
                     if (size < fewest) {
                         fewest = size;
-                        best = 1000 * kind + 10 * r + lanes;
+                        shortest = 1000 * kind + 10 * r + lanes;
                     }
                 }
             }
         }
-        makeTrial(best, row);
-        return best;
+        return shortest;
     }
 
     private void planTrial(int kind, int r, Row row) {
@@ -464,14 +475,6 @@ public final class BalanceCoder {
             dealer.teach(bench.trial, row);
         }
         bench.plan(bench.trial, row);
-    }
-
-    private void makeTrial(int way, Row row) {
-        int r = way % 1000 / 10;
-        int lanes = way % 10;
-        planTrial(way / 1000, r, row);
-        bench.packSigns(1 << r, lanes);
-        now.block.fill(bench.trial, bench, lanes);
     }
 
     /** A row of signs. */
@@ -718,13 +721,27 @@ public final class BalanceCoder {
             }
         }
 
+        /**
+         * A sign's share k + 1 lessens the cost by its count times COST_UNIT / k, never more than the one ahead did: so
+         * the cost is least when shares go by the highest gains, down to the gain at which all are wanted.
+         */
         private void dealByCounts(Deal deal, int all) {
             if (countedSigns == 0) {
                 deal.makeFlat(all);
                 return;
             }
-            int gain = lowestGain(all);
-            int rest = all - wantedByAll(gain + 1, all);
+            int gain = 0;
+            for (int bit = HIGHEST_GAIN_BIT; bit > 0; bit >>= 1) {
+                if (wantedByAll(gain + bit, all) >= all) {
+                    gain += bit;
+                }
+            }
+            dealDownTo(gain, all - wantedByAll(gain + 1, all), deal, all);
+        }
+
+        /** All higher gains first; then, for so many that are left, those that are just this one. */
+        private void dealDownTo(int gain, int left, Deal deal, int all) {
+            int rest = left;
             deal.makeEmpty();
             for (int i = 0; i < countedSigns; i++) {
                 int sign = counted[i];
@@ -737,20 +754,6 @@ public final class BalanceCoder {
             deal.sumUp();
         }
 
-        /**
-         * The highest gain at which all shares are wanted. A sign's share k + 1 lessens the cost by its count times
-         * COST_UNIT / k, never more than the one ahead did, so the least cost is where the highest gains are.
-         */
-        private int lowestGain(int all) {
-            int gain = 0;
-            for (int bit = HIGHEST_GAIN_BIT; bit > 0; bit >>= 1) {
-                if (wantedByAll(gain + bit, all) >= all) {
-                    gain += bit;
-                }
-            }
-            return gain;
-        }
-
         private int wantedByAll(int gain, int all) {
             int wanted = 0;
             for (int i = 0; i < countedSigns; i++) {
@@ -759,7 +762,7 @@ public final class BalanceCoder {
             return wanted;
         }
 
-        /** How many shares of a sign gain so much at least (above 0); its first one is a must. */
+        /** How many shares of a sign gain so much at least; its first one is a must. */
         private int wanted(int sign, int gain, int all) {
             int count = counts[sign];
             if (count < 1) {
@@ -788,11 +791,6 @@ public final class BalanceCoder {
             }
             return costSums;
         }
-    }
-
-    /** Which deal of a MIXED table counts behind a sign. */
-    private static int partBehind(int sign) {
-        return sign & (PARTS - 1);
     }
 
     /** Goes along a row, sign by sign, with the deal that counts for each. */

@@ -242,7 +242,8 @@ public final class BlocksTest {
         wrong("257 shares", 8, true, 2, 8, 1, 0, 0, 0, 2, 7, 1, 0, 8, 0, 245, 0, 1, 0, 0, 0);
         wrong("none left for the second", 11, true, 2, 8, 1, 0, 0, 0, 2, 7, 0, 255, 8, 0, 0, 0, 1, 0, 0, 0);
         wrong("65536 shares", 8, true, 2, 8, 1, 0, 0, 0, 1, 7, 255, 255, 0, 1, 0, 0, 0);
-        int[] mixed = {3, 8, 1, 0, 0, 0, 1, 0, 0, 255, 0, 1, 1, 0, 255, 0, 1, 2, 0, 255, 0, 1, 3, 0, 255, 0, 1, 0, 0, 0};
+        int[] mixed = {3, 8, 1, 0, 0,
+            0, 1, 0, 0, 255, 0, 1, 1, 0, 255, 0, 1, 2, 0, 255, 0, 1, 3, 0, 255, 0, 1, 0, 0, 0};
         right("four deals", 0, mixed);
         int[] fourth = mixed.clone();
         fourth[24] = 254;
@@ -376,6 +377,42 @@ public final class BlocksTest {
         DUE.due("search: steps", x.step(8, 0), 0x61);
         DUE.due("search: taken", x.take(1), 9);
         searchAll();
+        searchLanes();
+    }
+
+    /** Rows that were sought so that more lanes than one pay: signs meet states that suit them. */
+    private static void searchLanes() {
+        String two = ""
+            + "020221001110120022210012222121111002122111111002202020201222112022102100202222002121121211222111"
+            + "020112220111010120212010221220101012121121101001002021120121212012102220221100022210221112201020"
+            + "222101212122120101100122012210102010220202001120222201022020210212010111221200111022210221111021"
+            + "121011100001001220210211122012101211121222121101212112221101222012112022112222012112112110121022"
+            + "1210112210210111";
+        String three = ""
+            + "001202011002221201100122112010222100121022002221201220022011200112101220122111201200112122121102"
+            + "210222211120021200121102120111000212102221220111202102222220211011122210201210211210201121100102"
+            + "102221121100211222022121111211102111221201221210121011221202101122022102010010100111022221201200"
+            + "121122122211101122112211210111110212022202220210102110022121101212022011122001211022021220101200"
+            + "0210122202110110";
+        BalanceCoder x = new BalanceCoder();
+        for (int i = 0; i < 400; i += 8) {
+            x.put(0, word(two.substring(i, i + 8)), 8);
+            x.put(1, word(three.substring(i, i + 8)), 8);
+        }
+        DUE.due("search: two lanes", x.search(0), 2082);
+        DUE.due("search: two lanes, length", x.block(-1), 100);
+        DUE.due("search: two lanes, taken", x.take(2), 400);
+        DUE.due("search: three lanes", x.search(1), 2083);
+        DUE.due("search: three lanes, length", x.block(-1), 102);
+        DUE.due("search: three lanes, taken", x.take(2), 400);
+    }
+
+    private static long word(String digits) {
+        long w = 0;
+        for (int i = 0; i < digits.length(); i++) {
+            w = w << 8 | digits.charAt(i) - '0';
+        }
+        return w;
     }
 
     /** The answer is the first with the fewest bytes of what ahead() tells of all ways. */

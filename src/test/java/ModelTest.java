@@ -1,6 +1,6 @@
 import java.util.Random;
 
-/** Promises 1 to 26: long runs of calls, drawn from fixed seeds, on the class and on the plain model of the document. */
+/** Promises 1 to 26: long runs of calls, drawn from fixed seeds, on the class and on the plain model. */
 public final class ModelTest {
     private static final Due DUE = new Due("ModelTest");
     private static final int CALLS = 512;
@@ -119,7 +119,8 @@ public final class ModelTest {
                 int had = m.at(Math.floorMod(p, 6), -1);
                 int from = about(had);
                 int n = about(Math.max(0, had - Math.floorMod(from, 400)));
-                same("copy(" + p + ", " + from + ", " + n + ", " + q + ")", x.copy(p, from, n, q), m.copy(p, from, n, q));
+                same("copy(" + p + ", " + from + ", " + n + ", " + q + ")",
+                        x.copy(p, from, n, q), m.copy(p, from, n, q));
                 break;
             default:
                 long w = word(style);

@@ -4,6 +4,7 @@ public final class StepsTest {
 
     public static void main(String[] args) {
         step();
+        stepsOfTaken();
         mark();
         skip();
         skipMixed();
@@ -43,6 +44,32 @@ public final class StepsTest {
         DUE.due("step: changed", x.step(0, 0), -6);
         x.pack(0, 1, 1);
         DUE.due("step of no sign", x.step(0, 0), -1);
+    }
+
+    /** A block that another object made and this one only took has the same steps. */
+    private static void stepsOfTaken() {
+        for (int kind = 1; kind <= 4; kind++) {
+            BalanceCoder maker = new BalanceCoder();
+            maker.put(0, 0x7468652063617420L, 8);
+            maker.put(0, 0x7361742074686572L, 8);
+            maker.put(0, 0x65FF00L, 3);
+            maker.table(kind, 9);
+            maker.learn(0, 0);
+            maker.pack(0, 0, 3);
+            BalanceCoder x = new BalanceCoder();
+            for (int i = 0; i < maker.block(-1); i++) {
+                x.more(maker.block(i), 1);
+            }
+            DUE.due("taken, kind " + kind, x.take(5), 19);
+            for (int i = 0; i < 19; i++) {
+                for (int what = 0; what < 5; what++) {
+                    DUE.due("taken, kind " + kind + ": step(" + i + ", " + what + ")",
+                            x.step(i, what), maker.step(i, what));
+                }
+                x.tell(maker.step(i, 1));
+            }
+            DUE.due("taken, kind " + kind + ": check()", x.check(), 0);
+        }
     }
 
     private static void mark() {
