@@ -7,6 +7,9 @@ import java.util.Arrays;
 final class Part {
     private static final Path DOCUMENT = Path.of("../shared/DOC.md");
 
+    /** Stands behind the last word of "Terms". */
+    static final String END_OF_TERMS = "## end";
+
     private final Due due;
     private final String name;
     private final String text;
@@ -25,9 +28,10 @@ final class Part {
         return new Part(due, "promise " + number, plain(promise.substring(promise.indexOf("`: ") + 3)));
     }
 
-    /** What stands under "Terms". */
-    static Part terms(Due due) {
-        return new Part(due, "terms", plain(between(document(), "## Terms\n", "\nAhead of the calls `put`")));
+    /** What stands under "Terms", from some words on up to others. */
+    static Part terms(Due due, String first, String behind) {
+        String terms = plain(between(document(), "## Terms\n", "Ahead of the calls `put`")) + " ";
+        return new Part(due, "terms", first + between(terms + END_OF_TERMS, first, behind));
     }
 
     private static String document() {
