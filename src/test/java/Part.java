@@ -59,6 +59,10 @@ final class Part {
     /** The words stand in the document, and this is their test. */
     void says(String words, Runnable test) {
         int start = text.indexOf(words);
+        // Words that stand there more than once have a test for each time.
+        while (start >= 0 && tested[start]) {
+            start = text.indexOf(words, start + 1);
+        }
         due.holds(name + " says: " + words, start >= 0);
         if (start >= 0) {
             Arrays.fill(tested, start, start + words.length(), true);
