@@ -524,6 +524,23 @@ public final class BlockSentencesTest {
             Make.fill(x, 0, 5 * sign, 8);
         }
         searched("many signs, each in one run", x, 4);
+        searchOfEachR();
+    }
+
+    /** Short rows for which each r in turn is the first with the fewest bytes. */
+    private static void searchOfEachR() {
+        String[] rows = {"2010001032301030", "1200010021002020", "010000000000000200000200",
+            "000000002000002000000003", "000000010221202000022001", "0101100100011110", "0200020000300100",
+            "0300021200023301", "2100223102311122", "0101012000020301"};
+        int[] due = {1081, 2081, 2091, 2101, 2111, 2121, 4091, 4101, 4111, 4121};
+        for (int i = 0; i < rows.length; i++) {
+            BalanceCoder x = new BalanceCoder();
+            for (char digit : rows[i].toCharArray()) {
+                x.put(0, digit - '0', 1);
+            }
+            DUE.due("search of " + rows[i], x.search(0), due[i]);
+            searched(rows[i], x, due[i] / 1000);
+        }
     }
 
     private static void searchBeyond() {

@@ -394,10 +394,17 @@ public final class BlocksTest {
             + "102221121100211222022121111211102111221201221210121011221202101122022102010010100111022221201200"
             + "121122122211101122112211210111110212022202220210102110022121101212022011122001211022021220101200"
             + "0210122202110110";
+        String four = ""
+            + "355324453223455434433333433335533333533432233333453243543332144154435325111355555555312335535544"
+            + "221153454245112134445232223232343324123234445242243321114555135541114155155101215554254211115454"
+            + "525211124444222221221422414430034401433122250011554213320000452423032220240442522111040054151131"
+            + "000055001120002044000015201200000244233000002420004420110000131512110000444500040000000044451112"
+            + "0000400400000220";
         BalanceCoder x = new BalanceCoder();
         for (int i = 0; i < 400; i += 8) {
             x.put(0, word(two.substring(i, i + 8)), 8);
             x.put(1, word(three.substring(i, i + 8)), 8);
+            x.put(3, word(four.substring(i, i + 8)), 8);
         }
         DUE.due("search: two lanes", x.search(0), 2082);
         DUE.due("search: two lanes, length", x.block(-1), 100);
@@ -405,6 +412,9 @@ public final class BlocksTest {
         DUE.due("search: three lanes", x.search(1), 2083);
         DUE.due("search: three lanes, length", x.block(-1), 102);
         DUE.due("search: three lanes, taken", x.take(2), 400);
+        DUE.due("search: four lanes", x.search(3), 2084);
+        DUE.due("search: four lanes, length", x.block(-1), 161);
+        DUE.due("search: four lanes, taken", x.take(2), 400);
     }
 
     private static long word(String digits) {

@@ -81,6 +81,16 @@ public final class StepSentencesTest {
             x.alter(0, 0);
             DUE.due("taken", x.take(1), 5);
         }
+        BalanceCoder other = new BalanceCoder();
+        for (int i = 0; i < x.block(-1); i++) {
+            other.more(x.block(i), 1);
+        }
+        DUE.due("taken by another object", other.take(3), 5);
+        for (int i = 0; i < 5; i++) {
+            for (int what = 0; what <= 4; what++) {
+                DUE.due("another object: step(" + i + ", " + what + ")", other.step(i, what), due[i][what]);
+            }
+        }
         x = many(400);
         DUE.due("the last of 400: sign", x.step(399, 0), 399 - 256);
         DUE.due("the last of 400: state", x.step(399, 1), 256);

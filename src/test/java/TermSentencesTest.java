@@ -261,15 +261,15 @@ public final class TermSentencesTest {
             DUE.due("GROWING: begin of sign " + i, x.step(i, 4), begins[i]);
         }
         x.clear(0);
-        Make.put(x, 0, 9, 9, 8, 8, 7, 0);
+        Make.put(x, 0, 9, 9, 8, 9, 8, 7, 9, 8, 0);
         x.pack(0, 0, 2);
-        // 0 and 1 give to 9, which has 4 then and gives to 8; 9 and 8 have 3 then: 8 takes from 9.
-        int[] more = {2, 3, 2, 3, 2, 1};
-        for (int i = 0; i < 6; i++) {
+        // 0 and 1 give to 9, 9 to 8, 8 to 9, 9 to 8: both have 3. The lower, 8, gives to 7; then 7 to 9, 9 to 8.
+        int[] more = {2, 3, 2, 3, 2, 2, 3, 2, 1};
+        for (int i = 0; i < 9; i++) {
             DUE.due("GROWING: shares of sign " + i, x.step(i, 3), more[i]);
         }
         x.take(1);
-        DUE.due("GROWING: taken", x.at(1, 4), 7);
+        DUE.due("GROWING: taken", x.at(1, 5), 7);
     }
 
     private static void growingEnds() {
