@@ -891,7 +891,7 @@ public final class BalanceCoder {
                 return state;
             }
             int x = state;
-            for (int shift = 0; shift < MOST_SHIFTS && x >= 256 * shares; shift++) {
+            for (int shift = 0; shift < MOST_SHIFTS && x >= 256 * shares && used < bytes.length; shift++) {
                 bytes[used] = x & 255;
                 used++;
                 x /= 256;
@@ -928,7 +928,7 @@ public final class BalanceCoder {
             planSign(i, sign, deal);
             int x = steps.shares[i] * (states[lane] / all) + slot - steps.begins[i];
             for (int shift = 0; shift < MOST_SHIFTS && x < all; shift++) {
-                if (used == 0) {
+                if (used < 1 || start + used > block.length) {
                     return false;
                 }
                 used--;

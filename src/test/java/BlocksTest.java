@@ -7,6 +7,7 @@ public final class BlocksTest {
         packFindings();
         packKinds();
         packLong();
+        mostBytes();
         lanes();
         growing();
         take();
@@ -138,6 +139,25 @@ public final class BlocksTest {
         DUE.due("400 rare signs: the last", x.at(1, 399), 0);
         DUE.due("400 FLAT signs", x.pack(0, 0, 4), x.ahead(0, 0, 4));
         DUE.due("400 FLAT signs taken", x.take(2), 400);
+    }
+
+    /** Signs with 1 share of 4096 take a byte and two bytes in turns, in each lane: no row takes more. */
+    private static void mostBytes() {
+        BalanceCoder x = new BalanceCoder();
+        x.table(0, 12);
+        x.share(0, 254, 4095);
+        x.share(0, 255, 1);
+        for (int i = 0; i < 50; i++) {
+            x.put(0, -1L, 8);
+        }
+        int[] bytes = {600, 600, 201 + 199 + 199, 600};
+        for (int lanes = 1; lanes <= 4; lanes++) {
+            DUE.due("most bytes, lanes: " + lanes, x.pack(0, 0, lanes), 5 + 8 + 3 * lanes + 2 + bytes[lanes - 1] + 2);
+            // Lane 0 has 400, 200, 134 or 100 signs: sign 0, packed last, always takes two bytes.
+            DUE.due("most bytes: left behind sign 0", x.step(0, 2), bytes[lanes - 1] - 2);
+            DUE.due("most bytes taken", x.take(1), 400);
+            DUE.due("most bytes: the last sign", x.at(1, 399), 255);
+        }
     }
 
     /** Each lane packs its own signs: lane i modulo n. */

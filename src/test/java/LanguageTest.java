@@ -93,11 +93,28 @@ public final class LanguageTest {
             String pattern = isWord ? "(?s).*\\b" + word.replace(".", "\\.") + "\\b.*" : null;
             DUE.holds("no " + word, isWord ? !code.matches(pattern) : !code.contains(word));
         }
+        methodsAreShort(code.split("\n"));
         for (String line : code.split("\n")) {
             if (line.startsWith("import")) {
                 DUE.holds("rule 4: " + line, line.equals("import java.util.Arrays;"));
             }
             DUE.holds("rule 9: " + line, !line.matches(".*\\bwhile\\b.*"));
         }
+    }
+
+    /** A method begins with a line that opens it, at the depth of a member, and ends where that depth comes again. */
+    private static void methodsAreShort(String[] lines) {
+        int methods = 0;
+        for (int first = 0; first < lines.length; first++) {
+            if (lines[first].matches("( {4}| {8})[a-zA-Z].*\\) \\{") && !lines[first].matches(" *(if|for|switch) .*")) {
+                String end = lines[first].replaceAll("\\S.*", "") + "}";
+                int last = first;
+                for (; last < lines.length - 1 && !lines[last].equals(end); last++) {
+                }
+                DUE.holds("rule 11: " + lines[first], last - first < 60);
+                methods++;
+            }
+        }
+        DUE.holds("rule 11: methods are found: " + methods, methods > 50);
     }
 }
